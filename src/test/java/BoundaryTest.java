@@ -1319,6 +1319,7 @@ public final class BoundaryTest {
                 due("fits(" + i + ")", x.fits(i), NO);
             }
             due("nobody runs", shoot(new ThreeLegs(), "x").fits(-1), NO);
+            due("nobody runs", shoot(new ThreeLegs(), "x").fits(0), NO);
             due("a FAULT behind the first STEP that is not theirs", shoot(x, "fx").fits(-1), NO);
             due("the same of judge", x.judge(0, 1), NO);
         }
