@@ -678,6 +678,7 @@ public final class ThreeLegs {
     private static final class Knots {
         private static final int TWOS = PEOPLE / 2;
         private static final int MOST_WAYS = 105;
+        private static final int ABOVE_ALL_COSTS = TWOS * COST_OF_NOT_REACHING + 1;
 
         /** Of each two, which one of those still free its least PERSON takes, counted from 1. */
         private final int[] picks = new int[TWOS];
@@ -692,7 +693,7 @@ public final class ThreeLegs {
             for (int k = 0; k < TWOS; k++) {
                 picks[k] = 1;
             }
-            least = Integer.MAX_VALUE;
+            least = ABOVE_ALL_COSTS;
             boolean more = true;
             for (int i = 0; i < MOST_WAYS && more; i++) {
                 int cost = costOfPicks(crowd, times, byWorst);

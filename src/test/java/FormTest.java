@@ -23,6 +23,9 @@ public final class FormTest {
     private static final String[] NOT_LET = {"\\bcatch\\b", "\\btry\\b", "\\bfinally\\b", "\\bthrows?\\b",
         "\\bsynchronized\\b", "\\bassert\\b", "\\bpackage\\b", "->", "::", "\\bSystem\\.(?!arraycopy)", "\\bThread\\b",
         "\\bjava\\.", "\\bhashCode\\b", "Exact\\b", "\\bInteger\\.valueOf\\b", "\\bvar\\b", "\\bthis\\.\\w+\\("};
+    /** What the class takes of the library: each stands in LANGUAGE.md's rule 4 by its name. */
+    private static final List<String> OF_THE_LIBRARY = List.of("Integer.bitCount", "Math.abs", "Math.max", "Math.min",
+        "System.arraycopy");
 
     private static int wrong = 0;
 
@@ -95,21 +98,26 @@ public final class FormTest {
     private static void theClassesInside() {
         Class<?>[] inside = ThreeLegs.class.getDeclaredClasses();
         due("at most twelve classes", inside.length < 12);
+        atMostTwentyFields(ThreeLegs.class);
         for (Class<?> one : inside) {
             due(one + " is static", Modifier.isStatic(one.getModifiers()));
             due(one + " is not public", !Modifier.isPublic(one.getModifiers()));
             due(one + " is not protected", !Modifier.isProtected(one.getModifiers()));
-            int own = 0;
-            for (Field field : one.getDeclaredFields()) {
-                own += Modifier.isStatic(field.getModifiers()) ? 0 : 1;
-            }
-            due(one + " has at most twenty fields", own <= 20);
+            atMostTwentyFields(one);
             for (Method method : one.getDeclaredMethods()) {
                 due(one + "." + method.getName() + " bears no public name",
                     !Arrays.asList(NAMES).contains(method.getName()));
                 due(one + "." + method.getName() + " takes at most seven", method.getParameterCount() <= 7);
             }
         }
+    }
+
+    private static void atMostTwentyFields(Class<?> one) {
+        int own = 0;
+        for (Field field : one.getDeclaredFields()) {
+            own += Modifier.isStatic(field.getModifiers()) ? 0 : 1;
+        }
+        due(one + " has at most twenty fields", own <= 20);
     }
 
     private static void theStaticFields() {
@@ -130,6 +138,10 @@ public final class FormTest {
         for (String pattern : NOT_LET) {
             Matcher matcher = Pattern.compile(pattern).matcher(code);
             due("the text holds no " + pattern, !matcher.find());
+        }
+        Matcher taken = Pattern.compile("\\b[A-Z]\\w*\\s*\\.\\s*\\w+").matcher(code);
+        while (taken.find()) {
+            due(taken.group() + " stands in rule 4", OF_THE_LIBRARY.contains(taken.group()));
         }
         due("signs of 1 to 127 alone", text.chars().allMatch(sign -> sign < 128));
         int length = 0;
